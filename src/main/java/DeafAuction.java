@@ -194,7 +194,7 @@ public final class DeafAuction {
         if (buyer == null || !isLot(lot)) {
             return UNKNOWN;
         }
-        return GAIN_BASE + gainFrom(buyer, lot, buyer.seat);
+        return GAIN_BASE + gainFrom(buyer, buyer.seat, lot);
     }
 
     public int best(int b, int lot, int what) {
@@ -211,7 +211,7 @@ public final class DeafAuction {
             if (!room.isFreeFor(buyer, seat)) {
                 continue;
             }
-            int gained = gainFrom(buyer, lot, seat);
+            int gained = gainFrom(buyer, seat, lot);
             if (gained > most) {
                 most = gained;
                 bestSeat = seat;
@@ -589,11 +589,15 @@ public final class DeafAuction {
         bidding.hold();
     }
 
-    private int gainFrom(Buyer buyer, int lot, int seat) {
+    private void sellFrom(int b, int seat, int lot) {
         bidding.gather(EVERYONE);
-        bidding.places[buyer.number] = seat;
+        bidding.places[b] = seat;
         bidding.offer(lot);
         bidding.hold();
+    }
+
+    private int gainFrom(Buyer buyer, int seat, int lot) {
+        sellFrom(buyer.number, seat, lot);
         return bidding.owner == buyer.number ? buyer.worths[lot] - bidding.price : 0;
     }
 
@@ -646,10 +650,7 @@ public final class DeafAuction {
             if (lot == exceptLot || !clerk.hasOf(lot)) {
                 continue;
             }
-            bidding.gather(EVERYONE);
-            bidding.places[b] = seat;
-            bidding.offer(lot);
-            bidding.hold();
+            sellFrom(b, seat, lot);
             if (!clerk.agrees(lot, bidding.price)) {
                 return false;
             }
