@@ -495,7 +495,7 @@ public final class DeafAuction {
     }
 
     private static boolean isIn(int set, int number) {
-        return (set >> number & 1) == 1;
+        return ((set >> number) & 1) == 1;
     }
 
     private static boolean isLot(int lot) {
@@ -624,7 +624,7 @@ public final class DeafAuction {
 
     /** An order of all lots is a code of four digits to the base 4: rising codes, rising orders. */
     private static int lotOfOrder(int code, int q) {
-        return code >> 2 * (LOTS - 1 - q) & 3;
+        return (code >> (2 * (LOTS - 1 - q))) & 3;
     }
 
     private static boolean isEachLotOnce(int code) {
@@ -973,7 +973,7 @@ public final class DeafAuction {
             int seat = places[b];
             if (!isIn(room.lastSeats, seat) && !isIn(taken, seat + 1)) {
                 taken &= ~(1 << seat);
-                taken |= 1 << seat + 1;
+                taken |= 1 << (seat + 1);
                 places[b] = seat + 1;
             }
         }

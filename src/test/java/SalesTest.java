@@ -8,6 +8,7 @@ public final class SalesTest {
         halfOfWide();
         moving();
         lastSeatOfRow();
+        afterAnotherHall();
         leastSeat();
         seen();
         nervous();
@@ -99,6 +100,21 @@ public final class SalesTest {
         x.sit(1, 3);
         sold(x, "the end of the hall", 5, 1, 200, 301, 400, 501);
         end(x, "the end of the hall", 1, 3);
+    }
+
+    private static void afterAnotherHall() {
+        DeafAuction x = Check.in("a46;h20;h20;h20;h20;h20;h20");
+        Check.worths(x, 0, 9, 9, 9, 9, 9, 9);
+        Check.due(8, "a sale in a large hall", x.sale(0, 1) >= 0 ? 1 : 0, 1);
+        Check.due(2, "a small hall", Check.hall(x, "a23;b20;b20;b20"), 3);
+        Check.worths(x, 0, 4, 0, 4);
+        x.sit(1, 3);
+        x.sit(2, 4);
+        sold(x, "0 moves on the right, 2 behind it", 4, 0, 200, 302, 400);
+        end(x, "0 moves on the right, 2 behind it", 2, 3, 5);
+        DeafAuction y = Check.in("a13;b20;b20");
+        y.worth(1, 0, 9);
+        Check.due(10, "ends of the first sale of all", y.ends(1, 0), 2);
     }
 
     private static void leastSeat() {
