@@ -12,10 +12,14 @@ final class Check {
     }
 
     static void due(int promise, String call, long got, long want) {
+        due("promise " + promise, call, got, want);
+    }
+
+    static void due(String where, String call, long got, long want) {
         asked++;
         if (got != want) {
             wrong++;
-            System.out.println("promise " + promise + ": " + call + " answered " + got + ", due is " + want);
+            System.out.println(where + ": " + call + " answered " + got + ", due is " + want);
         }
     }
 
