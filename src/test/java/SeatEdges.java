@@ -60,6 +60,8 @@ final class SeatEdges {
         Check.worths(x, 0, 6, 9);
         best(x, 0, "a full hall, 0", 0, 100);
         best(x, 1, "a full hall, 1", 1, 103);
+        Check.worths(x, 0, 9, 0);
+        best(x, 0, "no seat beyond the last, where it would be had for 1", 0, 107);
         DeafAuction y = Check.in("a22;b20;b20;b20");
         y.law(1);
         Check.worths(y, 0, 0, 6, 0);
