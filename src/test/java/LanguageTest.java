@@ -7,6 +7,8 @@ import java.nio.file.Files;
 import java.nio.file.Path;
 import java.util.Arrays;
 import java.util.List;
+import java.util.Map;
+import java.util.TreeMap;
 import java.util.TreeSet;
 import java.util.regex.Matcher;
 import java.util.regex.Pattern;
@@ -37,6 +39,7 @@ public final class LanguageTest {
                 .replaceAll("'[^']'", "0").replaceAll("\"[^\"]*\"", "0");
         words(code);
         methods(code);
+        depth(code);
         Check.finish();
     }
 
@@ -129,23 +132,69 @@ public final class LanguageTest {
     /** Methods have seven parameters and some sixty lines at most. */
     private static void methods(String code) {
         String[] lines = code.split("\n");
-        Pattern head = Pattern.compile("^( {4}| {8})\\S.*\\((.*)\\) \\{$");
         int found = 0;
         for (int from = 0; from < lines.length; from++) {
-            Matcher matcher = head.matcher(lines[from]);
-            if (!matcher.matches() || matcher.group(0).matches("\\s*(if|for|while|switch|else)\\b.*")) {
+            Matcher head = headOf(lines[from]);
+            if (head == null) {
                 continue;
             }
-            String close = matcher.group(1) + "}";
-            int to = from;
-            while (to < lines.length && !lines[to].equals(close)) {
-                to++;
-            }
             found++;
-            holds("some sixty lines at most: " + lines[from].trim(), to - from < 60);
+            holds("some sixty lines at most: " + lines[from].trim(), endOf(lines, from, head) - from < 60);
             holds("seven parameters at most: " + lines[from].trim(),
-                    Arrays.stream(matcher.group(2).split(",")).count() <= 7);
+                    Arrays.stream(head.group(3).split(",")).count() <= 7);
         }
         holds("methods were found", found > FACE.size());
+    }
+
+    private static Matcher headOf(String line) {
+        Matcher head = Pattern.compile("^( {4}| {8})(?=\\w)(?:.*\\W)?(\\w+)\\(([^()]*)\\) \\{$").matcher(line);
+        boolean isHead = head.matches() && !line.matches("\\s*(if|for|while|switch|else)\\b.*");
+        return isHead ? head : null;
+    }
+
+    private static int endOf(String[] lines, int from, Matcher head) {
+        int to = from;
+        while (to < lines.length && !lines[to].equals(head.group(1) + "}")) {
+            to++;
+        }
+        return to;
+    }
+
+    /** No method comes back to itself, and calls go at most eight deep; methods of one name are one. */
+    private static void depth(String code) {
+        String[] lines = code.split("\n");
+        Map<String, TreeSet<String>> calls = new TreeMap<>();
+        for (int from = 0; from < lines.length; from++) {
+            Matcher head = headOf(lines[from]);
+            if (head == null) {
+                continue;
+            }
+            TreeSet<String> called = calls.computeIfAbsent(head.group(2), name -> new TreeSet<>());
+            for (int at = from + 1; at < endOf(lines, from, head); at++) {
+                // What a class above gives bears the same name, but is no way back.
+                Matcher call = Pattern.compile("(?<!super\\.)\\b(\\w+)\\(").matcher(lines[at]);
+                while (call.find()) {
+                    called.add(call.group(1));
+                }
+            }
+        }
+        for (String call : FACE) {
+            String name = call.replaceAll("^\\w+ (\\w+)\\(.*", "$1");
+            holds(name + " is found", calls.containsKey(name));
+            holds("at most eight deep: " + name, levels(calls, name, 1) <= 8);
+        }
+    }
+
+    private static int levels(Map<String, TreeSet<String>> calls, String name, int level) {
+        int deepest = level;
+        // A way back to itself would never end: far above eight it is cut off.
+        if (level < 20) {
+            for (String called : calls.get(name)) {
+                if (calls.containsKey(called)) {
+                    deepest = Math.max(deepest, levels(calls, called, level + 1));
+                }
+            }
+        }
+        return deepest;
     }
 }
